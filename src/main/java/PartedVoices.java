@@ -30,8 +30,8 @@ public final class PartedVoices {
     public int told(int what) {
         switch (what) {
             case 0: return score.count();
-            case 1: return lines.countVoices();
-            case 2: return lines.costOfAll();
+            case 1: return standing().countVoices();
+            case 2: return standing().costOfAll();
             case 3: return weighed().fewest();
             case 4: return weighed().cheapest();
             case 5: return weighed().cheapestCost();
@@ -56,8 +56,8 @@ public final class PartedVoices {
             case 1: return score.off(i);
             case 2: return score.pitch(i);
             case 3: return score.next(i);
-            case 4: return lines.ahead(i);
-            case 5: return lines.voiceWith(i);
+            case 4: return standing().ahead(i);
+            case 5: return standing().voiceWith(i);
             case 6: return partings.price(i);
             case 7: return score.countFollowers(i);
             default: return OUTSIDE;
@@ -82,23 +82,25 @@ public final class PartedVoices {
     }
 
     public int voice(int v, int what) {
-        if (!lines.hasVoice(v)) return UNKNOWN;
+        Lines now = standing();
+        if (!now.hasVoice(v)) return UNKNOWN;
         switch (what) {
-            case 0: return lines.size(v);
-            case 1: return lines.noteOf(v, 0);
-            case 2: return lines.noteOf(v, lines.size(v) - 1);
-            case 3: return lines.lowest(v);
-            case 4: return lines.highest(v);
-            case 5: return lines.rests(v);
-            case 6: return lines.costOf(v);
+            case 0: return now.size(v);
+            case 1: return now.noteOf(v, 0);
+            case 2: return now.noteOf(v, now.size(v) - 1);
+            case 3: return now.lowest(v);
+            case 4: return now.highest(v);
+            case 5: return now.rests(v);
+            case 6: return now.costOf(v);
             default: return OUTSIDE;
         }
     }
 
     public int member(int v, int i) {
-        if (!lines.hasVoice(v)) return UNKNOWN;
+        Lines now = standing();
+        if (!now.hasVoice(v)) return UNKNOWN;
         if (i < 0) return OUTSIDE;
-        return lines.noteOf(v, i);
+        return now.noteOf(v, i);
     }
 
     // ---- deeds
@@ -142,7 +144,7 @@ public final class PartedVoices {
         if (!score.has(a) || !score.has(b)) return UNKNOWN;
         if (!score.mayFollow(a, b)) return NOT;
         history.record(score);
-        score.link(lines.ahead(b), NONE);
+        score.link(standing().ahead(b), NONE);
         score.link(a, b);
         return score.costToFollow(a, b);
     }
@@ -164,7 +166,7 @@ public final class PartedVoices {
         for (int i = 0; i < score.count(); i++) {
             score.link(i, all.chosen(i));
         }
-        return lines.costOfAll();
+        return standing().costOfAll();
     }
 
     public int mend() {
@@ -240,6 +242,11 @@ public final class PartedVoices {
         return k >= 0 && k <= MOST_NOTES;
     }
 
+    private Lines standing() {
+        lines.read();
+        return lines;
+    }
+
     private Partings weighed() {
         partings.weigh(NONE);
         return partings;
@@ -266,6 +273,8 @@ public final class PartedVoices {
 
         /** One row for all of it, so that history and images copy it in one go. */
         private final int[] cells = new int[CELLS];
+        /** Another one whenever notes or terms change, so that partings need not be weighed again without need. */
+        private int edition;
 
         Score() {
             System.arraycopy(FIRST_TERMS, 0, cells, TERMS_FROM, TERMS);
@@ -281,6 +290,10 @@ public final class PartedVoices {
 
         int count() {
             return cells[COUNT];
+        }
+
+        int edition() {
+            return edition;
         }
 
         boolean isFull() {
@@ -300,7 +313,7 @@ public final class PartedVoices {
         }
 
         int off(int i) {
-            return on(i) + length(i);
+            return cell(i, ON) + cell(i, LENGTH);
         }
 
         int pitch(int i) {
@@ -312,7 +325,7 @@ public final class PartedVoices {
         }
 
         private int cell(int i, int what) {
-            return has(i) ? cells[NOTES_FROM + i * NOTE_CELLS + what] : NONE;
+            return i >= 0 && i < MOST_NOTES ? cells[NOTES_FROM + i * NOTE_CELLS + what] : NONE;
         }
 
         int valueOf(int which) {
@@ -324,7 +337,7 @@ public final class PartedVoices {
             int was = valueOf(which);
             if (which >= 0 && which < TERMS) {
                 cells[TERMS_FROM + which] = v;
-                loosen();
+                changed();
             }
             return was;
         }
@@ -363,7 +376,7 @@ public final class PartedVoices {
             cells[from + LENGTH] = length;
             cells[from + PITCH] = pitch;
             cells[COUNT] = count + 1;
-            loosen();
+            changed();
             return i;
         }
 
@@ -386,14 +399,17 @@ public final class PartedVoices {
             int behind = count() - 1 - i;
             System.arraycopy(cells, from + NOTE_CELLS, cells, from, behind * NOTE_CELLS);
             cells[COUNT] = count() - 1;
-            loosen();
+            changed();
         }
 
         void dropAll() {
             cells[COUNT] = 0;
+            changed();
         }
 
-        private void loosen() {
+        /** Notes or terms are others now: none has a next any more. */
+        private void changed() {
+            edition++;
             for (int i = 0; i < count(); i++) {
                 link(i, NONE);
             }
@@ -409,7 +425,9 @@ public final class PartedVoices {
         }
 
         void copyFrom(int[] shelf, int place) {
-            if (fitsOn(shelf, place)) System.arraycopy(shelf, place * CELLS, cells, 0, CELLS);
+            if (!fitsOn(shelf, place)) return;
+            System.arraycopy(shelf, place * CELLS, cells, 0, CELLS);
+            edition++;
         }
 
         private static boolean fitsOn(int[] shelf, int place) {
@@ -430,7 +448,8 @@ public final class PartedVoices {
             this.score = score;
         }
 
-        private void read() {
+        /** What is asked of voices holds for the score as it was read last. */
+        void read() {
             Arrays.fill(aheadOf, NONE);
             for (int i = 0; i < score.count(); i++) {
                 int next = score.next(i);
@@ -449,22 +468,19 @@ public final class PartedVoices {
         }
 
         int ahead(int i) {
-            read();
             return score.has(i) ? aheadOf[i] : NONE;
         }
 
         int voiceWith(int i) {
-            read();
             return score.has(i) ? voiceOf[i] : NONE;
         }
 
         int countVoices() {
-            read();
             return voices;
         }
 
         boolean hasVoice(int v) {
-            return v >= 0 && v < countVoices();
+            return v >= 0 && v < voices;
         }
 
         private boolean isIn(int v, int i) {
@@ -472,7 +488,6 @@ public final class PartedVoices {
         }
 
         int size(int v) {
-            read();
             int found = 0;
             for (int n = 0; n < score.count(); n++) {
                 if (isIn(v, n)) found++;
@@ -482,7 +497,6 @@ public final class PartedVoices {
 
         /** The i-th note of a voice; NONE: it has not so many. */
         int noteOf(int v, int i) {
-            read();
             int seen = 0;
             for (int n = 0; n < score.count(); n++) {
                 if (isIn(v, n)) {
@@ -510,7 +524,6 @@ public final class PartedVoices {
         }
 
         int rests(int v) {
-            read();
             int rests = 0;
             for (int n = 0; n < score.count(); n++) {
                 int next = score.next(n);
@@ -520,7 +533,6 @@ public final class PartedVoices {
         }
 
         int costOf(int v) {
-            read();
             int cost = score.valueOf(Score.ENTRY);
             for (int n = 0; n < score.count(); n++) {
                 if (isIn(v, n)) cost += costBehind(n);
@@ -603,6 +615,8 @@ public final class PartedVoices {
         private final int[] chosen = new int[MOST_NOTES];
         private int count;
         private int entry;
+        private int weighedEdition = NONE;
+        private int weighedAlone = NONE;
 
         Partings(Score score) {
             this.score = score;
@@ -610,6 +624,9 @@ public final class PartedVoices {
 
         /** With one note alone in its voice, whatever may follow; NONE: with none such. */
         void weigh(int alone) {
+            if (weighedEdition == score.edition() && weighedAlone == alone) return;
+            weighedEdition = score.edition();
+            weighedAlone = alone;
             count = Math.min(score.count(), MOST_NOTES);
             entry = score.valueOf(Score.ENTRY);
             for (int a = 0; a < count; a++) {
@@ -638,25 +655,24 @@ public final class PartedVoices {
         }
 
         private void weighFrom(int i) {
-            int half = bit(i + 1);
-            for (int set = 0; set < half; set++) {
-                leastTo[2 * half + set] = leastPast(i, set);
-                // Of these notes i alone is ahead of i + 1.
-                leastTo[3 * half + set] = Math.min(BARRED, lineCost(i, i + 1) + leastTo[half + set]);
+            int behind = bit(i + 1);
+            for (int set = 0; set < behind; set++) {
+                leastTo[2 * behind + set] = leastTo[behind + set];
+                leastTo[3 * behind + set] = BARRED;
+            }
+            for (int b = i + 1; b < count; b++) {
+                if (lineCost(i, b) < BARRED) weighLine(behind, bit(b), lineCost(i, b));
             }
         }
 
-        /** The least from note i on to a set without note i + 1. */
-        private int leastPast(int i, int set) {
-            int behind = bit(i + 1);
-            int least = leastTo[behind + set];
-            for (int b = i + 2; b < count; b++) {
-                int bit = bit(b);
-                if ((set & bit) != 0) {
-                    least = Math.min(least, lineCost(i, b) + leastTo[behind + set - bit]);
+        /** A line to the note of this bit, with all that the notes behind, whose row begins there, can lead to else. */
+        private void weighLine(int behind, int bit, int cost) {
+            for (int set = 0; set < behind; set++) {
+                if ((set & bit) == 0) {
+                    int to = 2 * behind + set + bit;
+                    leastTo[to] = Math.min(leastTo[to], cost + leastTo[behind + set]);
                 }
             }
-            return least;
         }
 
         private void findLeast() {
@@ -667,14 +683,14 @@ public final class PartedVoices {
             }
             int row = bit(0);
             for (int set = 0; set < row; set++) {
-                int k = count - Integer.bitCount(set);
                 int cost = leastTo[row + set];
-                if (cost < BARRED && isLess(cost + k * entry, k)) leastOf[k] = cost + k * entry;
+                if (cost < BARRED) offer(count - Integer.bitCount(set), cost);
             }
         }
 
-        private boolean isLess(int cost, int k) {
-            return leastOf[k] == NONE || cost < leastOf[k];
+        private void offer(int k, int cost) {
+            int whole = cost + k * entry;
+            if (isVoiceCount(k) && (leastOf[k] == NONE || whole < leastOf[k])) leastOf[k] = whole;
         }
 
         int leastCost(int k) {

@@ -532,7 +532,7 @@ public final class AgainstPlain {
       else changeOther();
     }
 
-    /** All that can be asked cheaply must be alike after every call, told in one row of numbers. */
+    /** All that can be asked cheaply, in one row of numbers; asked in every other run, as asking must not be needed. */
     String whole(boolean ofPlain) {
       StringBuilder row = new StringBuilder();
       for (int what : new int[] {0, 1, 2, 6, 7, 8, 9, 10, 11, 12, 14, 15}) row.append(ofPlain ? plain.told(what) : x.told(what)).append(' ');
@@ -549,7 +549,7 @@ public final class AgainstPlain {
           System.out.println("run " + number + ", call " + i + ": " + call + " answered " + got + ", due is " + want);
           return false;
         }
-        if (!whole(false).equals(whole(true))) {
+        if (number % 2 == 0 && !whole(false).equals(whole(true))) {
           System.out.println("run " + number + ", call " + i + ": after " + call + " is so: " + whole(false) + ", due is: " + whole(true));
           return false;
         }

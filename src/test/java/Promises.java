@@ -110,6 +110,15 @@ public final class Promises {
     due("told(5)", y.told(5), 4);
     y.term(3, 0);
     dueTold(y, 4, 4, 0, 2, 4, 0);
+    // Ten voices, as they must be, and as they are cheapest.
+    PartedVoices z = new PartedVoices();
+    for (int i = 0; i < 10; i++) z.note(5, 1, i);
+    dueTold(z, 10, 10, 200, 10, 10, 200);
+    z.clear();
+    for (int i = 0; i < 10; i++) z.note(i, 1, 10 + i);
+    dueTold(z, 10, 10, 200, 1, 1, 29);
+    z.term(3, 0);
+    dueTold(z, 10, 10, 0, 1, 10, 0);
     crossings();
   }
 
@@ -123,6 +132,18 @@ public final class Promises {
     x.follow(0, 3);
     x.follow(1, 2);
     due("told(6)", x.told(6), 0);
+    x.follow(0, 2);
+    x.follow(1, 3);
+    due("told(6)", x.told(6), 0);
+    x.move(3, 2, 2, 50);
+    x.move(1, 0, 2, 61);
+    x.follow(0, 3);
+    x.follow(1, 2);
+    due("told(6)", x.told(6), 0);
+    x.follow(0, 2);
+    x.follow(1, 3);
+    due("told(6)", x.told(6), 0);
+    dueDownward();
     // a to b ends as c begins: not at once, ON of c is not less than ON of b.
     PartedVoices y = new PartedVoices();
     y.note(0, 2, 50);
@@ -145,6 +166,23 @@ public final class Promises {
     due("told(6)", z.told(6), 3);
   }
 
+  /** The one that begins first has the greater pitch, by one at least at both ends, and is below then. */
+  private static void dueDownward() {
+    for (int from = 59; from <= 61; from++) {
+      for (int to = 59; to <= 61; to++) {
+        PartedVoices x = new PartedVoices();
+        x.note(0, 2, 60);
+        x.note(1, 2, from);
+        x.note(4, 2, 60);
+        x.note(5, 2, to);
+        x.follow(0, 2);
+        x.follow(1, 3);
+        boolean cross = from == 59 && to == 61 || from == 61 && to == 59;
+        due("told(6), from " + from + " to " + to, x.told(6), cross ? 1 : 0);
+      }
+    }
+  }
+
   private static void at() {
     promise = 3;
     PartedVoices x = four();
@@ -156,6 +194,14 @@ public final class Promises {
     for (int i = 0; i < 5; i++) {
       for (int what = 0; what < 6; what++) due("at(" + i + ", " + what + ")", x.at(i, what), wants[i][what]);
     }
+    x.cut(0);
+    due("at(4, 5), after a cut", x.at(4, 5), 2);
+    x.follow(0, 2);
+    due("at(4, 5), after it follows again", x.at(4, 5), 0);
+    x.cut(2);
+    due("at(4, 4), after a cut", x.at(4, 4), NONE);
+    x.cut(1);
+    x.follow(2, 4);
     int[] followers = {3, 3, 1, 1, 0};
     for (int i = 0; i < 5; i++) due("at(" + i + ", 7)", x.at(i, 7), followers[i]);
     due("at(0, 8)", x.at(0, 8), OUTSIDE);
@@ -331,6 +377,14 @@ public final class Promises {
     due("voice(-1, 0)", x.voice(-1, 0), UNKNOWN);
     due("voice(0, 7)", x.voice(0, 7), OUTSIDE);
     due("voice(0, -1)", x.voice(0, -1), OUTSIDE);
+    // The highest and the lowest may stand anywhere in it.
+    for (int turn = 0; turn < 3; turn++) {
+      PartedVoices y = new PartedVoices();
+      for (int i = 0; i < 3; i++) y.note(i, 1, 60 + (i + turn) % 3);
+      y.part(1);
+      due("voice(0, 3), turn " + turn, y.voice(0, 3), 60);
+      due("voice(0, 4), turn " + turn, y.voice(0, 4), 62);
+    }
     x.follow(1, 3);
     due("voice(1, 0)", x.voice(1, 0), 2);
     due("voice(1, 2)", x.voice(1, 2), 3);
@@ -681,6 +735,7 @@ public final class Promises {
     for (int i = 0; i < 10; i++) y.drift(1);
     for (int i = 0; i < 30; i++) due("at(" + i / 3 + ", " + i % 3 + ")", x.at(i / 3, i % 3), y.at(i / 3, i % 3));
     due("told(15)", x.told(15), y.told(15));
+    for (int v = 0; v < 60; v++) dueDrawn(v * 35000000);
     PartedVoices z = chain(8);
     due("drift(5) with room for two", z.drift(5), 10);
     due("told(14)", z.told(14), 10);
@@ -691,6 +746,22 @@ public final class Promises {
     w.follow(0, 1);
     w.drift(1);
     dueNext(w, NONE, NONE, NONE);
+  }
+
+  private static long drawn(long seed) {
+    return (seed * 1103515245L + 12345L) % 2147483648L;
+  }
+
+  private static void dueDrawn(int v) {
+    long on = drawn(v);
+    long length = drawn(on);
+    long pitch = drawn(length);
+    PartedVoices x = new PartedVoices();
+    x.seed(v);
+    x.drift(1);
+    int begins = (int) (on / 65536 % 24);
+    dueNotes(x, begins, begins + (int) (length / 65536 % 6) + 1, (int) (pitch / 65536 % 25) + 48);
+    due("told(15)", x.told(15), (int) pitch);
   }
 
   private static void undo() {
