@@ -6,7 +6,8 @@ import java.util.Random;
 /** Random runs of calls, each answer against a plain second model that tries every parting. */
 public final class AgainstPlain {
   private static final int RUNS = 400;
-  private static final int CALLS = 256;
+  /** What later calls answer is free. */
+  private static final int MOST_CALLS = 512;
   private static final int NONE = -1, UNKNOWN = -1000000001, OUTSIDE = -1000000002, NOT = -1000000003, FULL = -1000000004;
 
   private static final class Note {
@@ -532,7 +533,7 @@ public final class AgainstPlain {
       else changeOther();
     }
 
-    /** All that can be asked cheaply, in one row of numbers; asked in every other run, as asking must not be needed. */
+    /** All that can be asked cheaply, in one row of numbers; asked in every other run alone, as asking must not be needed. */
     String whole(boolean ofPlain) {
       StringBuilder row = new StringBuilder();
       for (int what : new int[] {0, 1, 2, 6, 7, 8, 9, 10, 11, 12, 14, 15}) row.append(ofPlain ? plain.told(what) : x.told(what)).append(' ');
@@ -542,16 +543,25 @@ public final class AgainstPlain {
       return row.toString();
     }
 
+    boolean isWholeAsDue(int calls) {
+      String is = whole(false);
+      String due = whole(true);
+      if (is.equals(due)) return true;
+      System.out.println("run " + number + ", call " + calls + ": after " + call + " is so: " + is + ", due is: " + due);
+      return false;
+    }
+
     boolean go() {
-      for (int i = 0; i < CALLS; i++) {
+      for (int calls = 1; calls <= MOST_CALLS; calls++) {
         step();
         if (got != want) {
-          System.out.println("run " + number + ", call " + i + ": " + call + " answered " + got + ", due is " + want);
+          System.out.println("run " + number + ", call " + calls + ": " + call + " answered " + got + ", due is " + want);
           return false;
         }
-        if (number % 2 == 0 && !whole(false).equals(whole(true))) {
-          System.out.println("run " + number + ", call " + i + ": after " + call + " is so: " + whole(false) + ", due is: " + whole(true));
-          return false;
+        int asked = 12 + 6 * plain.size();
+        if (number % 2 == 0 && random.nextInt(20) == 0 && calls + asked <= MOST_CALLS) {
+          if (!isWholeAsDue(calls)) return false;
+          calls += asked;
         }
       }
       return true;
