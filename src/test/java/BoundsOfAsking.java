@@ -112,6 +112,20 @@ public final class BoundsOfAsking extends Checks {
     test(3, what, "3 without a NEXT", () -> due("at(9, 3)", linked(10).at(9, 3), NONE));
     test(3, what, "3 with one", () -> due("at(8, 3)", linked(10).at(8, 3), 9));
     test(3, what, "4 of a first note", () -> due("at(0, 4)", linked(10).at(0, 4), NONE));
+    test(3, what, "4 and 5 of each note alone, by each number of notes: nothing is read behind the last", () -> {
+      for (int notes = 1; notes <= 10; notes++) dueAlone(chain(notes), notes);
+    });
+    test(3, what, "4 and 5 of each note alone, where more notes have been", () -> {
+      for (int notes = 1; notes <= 10; notes++) {
+        PartedVoices x = linked(10);
+        x.clear();
+        for (int i = 0; i < notes; i++) x.note(i, 1, 60);
+        dueAlone(x, notes);
+      }
+    });
+    test(3, what, "all of each note in one voice, by each number of notes", () -> {
+      for (int notes = 1; notes <= 10; notes++) dueInOneVoice(notes);
+    });
     test(3, what, "4 of one whose number is 0", () -> due("at(1, 4)", linked(10).at(1, 4), 0));
     test(3, what, "4 after the one ahead has left it", () -> {
       PartedVoices x = chain(3);
@@ -133,6 +147,27 @@ public final class BoundsOfAsking extends Checks {
       x.term(4, 0);
       due("at(0, 7)", x.at(0, 7), 1);
     });
+  }
+
+  private static void dueAlone(PartedVoices x, int notes) {
+    due("told(0)", x.told(0), notes);
+    for (int i = 0; i < notes; i++) {
+      due("at(" + i + ", 3) of " + notes, x.at(i, 3), NONE);
+      due("at(" + i + ", 4) of " + notes, x.at(i, 4), NONE);
+      due("at(" + i + ", 5) of " + notes, x.at(i, 5), i);
+    }
+  }
+
+  /** Of one pitch, each beginning as the one ahead ends: without one amid them there is a rest of one. */
+  private static void dueInOneVoice(int notes) {
+    PartedVoices x = linked(notes);
+    for (int i = 0; i < notes; i++) {
+      int price = notes == 1 ? 20 : i == 0 || i == notes - 1 ? 0 : -1;
+      int[] wants = {i, i + 1, 60, i == notes - 1 ? NONE : i + 1, i - 1, 0, price, notes - 1 - i};
+      for (int what = 0; what < 8; what++) due("at(" + i + ", " + what + ") of " + notes, x.at(i, what), wants[what]);
+    }
+    int[] wants = {notes, 0, notes - 1, 60, 60, 0, 20};
+    for (int what = 0; what < 7; what++) due("voice(0, " + what + ") of " + notes, x.voice(0, what), wants[what]);
   }
 
   private static void cost() {
@@ -268,6 +303,11 @@ public final class BoundsOfAsking extends Checks {
       dueFromTo(withNotes(0, 1, 0, 1, 1, 60, 2, 1, 127));
       dueFromTo(withNotes(0, 1, 127, 1, 1, 60, 2, 1, 0));
       dueFromTo(withNotes(0, 1, 60, 1, 1, 0, 2, 1, 127, 3, 1, 60));
+    });
+    test(7, voice, "6: from the first line to the last", () -> {
+      PartedVoices x = withNotes(0, 1, 60, 1, 1, 64, 2, 1, 60, 5, 1, 61);
+      x.part(1);
+      due("voice(0, 6)", x.voice(0, 6), 20 + 4 + 4 + 1 + 2);
     });
     test(7, voice, "those of another voice are not of it", () -> {
       PartedVoices x = withNotes(0, 1, 0, 0, 1, 60, 0, 1, 127, 1, 1, 61);

@@ -169,6 +169,13 @@ public final class BoundsOfTerms extends Checks {
       for (int which = 0; which < 5; which++) x.term(which, GREATEST[which]);
       due("cost", x.cost(0, 1), 127 * 9 + 98 * 9 + 99);
     });
+    test(0, costs, "each TERM by its own number", () -> {
+      PartedVoices x = withNotes(0, 1, 60, 8, 1, 73);
+      x.term(0, 2);
+      x.term(1, 5);
+      x.term(2, 90);
+      due("cost", x.cost(0, 1), 13 * 2 + 7 * 5 + 90);
+    });
     test(0, costs, "STEP 0, GAP 0: LEAP alone; LEAP 0, too: nothing", () -> {
       PartedVoices x = withNotes(0, 1, 60, 5, 1, 80);
       x.term(0, 0);
@@ -305,10 +312,11 @@ public final class BoundsOfTerms extends Checks {
       x.term(1, 0);
       due("told(4)", x.told(4), 1);
     });
-    test(0, cheapest, "the most is the cheapest", () -> {
-      PartedVoices x = withNotes(0, 1, 60, 1, 1, 61, 2, 1, 62);
+    test(0, cheapest, "the most that there can be is the cheapest", () -> {
+      PartedVoices x = new PartedVoices();
+      for (int i = 0; i < 10; i++) x.note(i, 1, 60 + i);
       x.term(3, 0);
-      due("told(4)", x.told(4), 3);
+      due("told(4)", x.told(4), 10);
       due("told(3)", x.told(3), 1);
     });
   }

@@ -14,7 +14,7 @@ abstract class Checks {
   private static final Path DOCUMENT = Path.of("../shared/DOC.md");
 
   private static final TreeMap<Integer, Integer> testsOfPromise = new TreeMap<>();
-  private static String document = "";
+  private static final String document = readDocument();
   private static String running = "";
   private static int tests = 0;
   private static int wrong = 0;
@@ -29,7 +29,7 @@ abstract class Checks {
     tests++;
     testsOfPromise.merge(promise, 1, Integer::sum);
     running = (promise == 0 ? "terms" : "promise " + promise) + ", '" + sentence + "', " + edge;
-    if (!document().contains(sentence)) complain("the document has no such sentence");
+    if (!document.isEmpty() && !document.contains(sentence)) complain("the document has no such sentence");
     try {
       body.run();
     } catch (RuntimeException thrown) {
@@ -37,16 +37,14 @@ abstract class Checks {
     }
   }
 
-  /** In one line, as the sentences of the tests are; empty texts have none of them. */
-  private static String document() {
-    if (document.isEmpty()) {
-      try {
-        document = Files.readString(DOCUMENT).replaceAll("\\s+", " ");
-      } catch (IOException gone) {
-        document = "no document: " + gone;
-      }
+  /** In one line, as the sentences of the tests are; empty where it is not there: then the answers alone are tested. */
+  private static String readDocument() {
+    try {
+      return Files.readString(DOCUMENT).replaceAll("\\s+", " ");
+    } catch (IOException gone) {
+      System.out.println("sentences are not compared with the document: " + gone);
+      return "";
     }
-    return document;
   }
 
   /** Ends the program; each promise from the first to the last must have had a test. */
