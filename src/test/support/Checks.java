@@ -3,7 +3,7 @@ import java.nio.file.Files;
 import java.nio.file.Path;
 import java.util.TreeMap;
 
-/** What the tests of boundaries share: each of them names the sentence of the document that it watches. */
+/** What the tests by sentences share: each of them names the sentence of the document that it watches. */
 abstract class Checks {
   static final int NONE = -1, UNKNOWN = -1000000001, OUTSIDE = -1000000002, NOT = -1000000003, FULL = -1000000004;
   static final int MIN = Integer.MIN_VALUE, MAX = Integer.MAX_VALUE;
@@ -19,7 +19,12 @@ abstract class Checks {
   private static int tests = 0;
   private static int wrong = 0;
 
-  private static void complain(String what) {
+  /** In one line; empty where it is not there. */
+  static String document() {
+    return document;
+  }
+
+  static void complain(String what) {
     wrong++;
     System.out.println(running + ": " + what);
   }
@@ -53,7 +58,7 @@ abstract class Checks {
       running = "promise " + promise;
       if (!testsOfPromise.containsKey(promise)) complain("it has no test");
     }
-    System.out.println(tests + " boundaries, " + (wrong == 0 ? "all hold" : wrong + " answers are not as due"));
+    System.out.println(tests + " tests, " + (wrong == 0 ? "all hold" : wrong + " answers are not as due"));
     if (wrong != 0) System.exit(1);
   }
 
