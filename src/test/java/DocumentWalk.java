@@ -12,8 +12,8 @@ import java.util.regex.Matcher;
 import java.util.regex.Pattern;
 
 /**
- * The document from its first line to its last: its sentences in their order, none left out, each held against
- * the class in many states. The other tests take single sentences and their edges.
+ * The document from its first line to its last: its sentences in their order, none left out, and those that hold
+ * for any state each held against the class in many. The other tests take single sentences and their edges.
  */
 public final class DocumentWalk extends Checks {
   private static final int[] GREATEST = {9, 9, 99, 999, 99};
